@@ -220,6 +220,7 @@ public final class SauceredMilk {
         return (int) ways;
     }
 
+    /** Rows in which a saucer is not OFF are less than all in which it is, the saucers ahead of it being alike. */
     private static int nthRow(int n, int j, int i) {
         int bits = 0;
         int stillOff = j;
@@ -230,8 +231,6 @@ public final class SauceredMilk {
                 stillBefore -= withoutThis;
                 stillOff--;
                 bits |= 1 << saucer;
-                // The one beside an OFF saucer is passed over: it can not be OFF.
-                saucer--;
             }
         }
         return bits;
@@ -345,8 +344,8 @@ public final class SauceredMilk {
     }
 
     /**
-     * Whether the one whose turn it is wins. Who can pour at least twice settles who is to leave the last
-     * remainder, and so wins; before that every turn has but one move.
+     * Whether the one whose turn it is wins. Who can pour twice or more wins: he takes what is left over behind
+     * all pours for himself, or, pouring once less, has the other one take it. Else there is but one move.
      */
     private static boolean nextWins(int fuller, int other) {
         int more = fuller;
