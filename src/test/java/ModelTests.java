@@ -31,11 +31,11 @@ public final class ModelTests {
         System.exit(1);
     }
 
-    // ---- what depends on arguments alone is tried whole
+    // ---- what depends on arguments alone is tried whole, by no object for more than 512 calls
 
     private static int everyTrial() {
-        SauceredMilk x = new SauceredMilk();
         for (int n = 1; n <= 99; n++) {
+            SauceredMilk x = new SauceredMilk();
             for (int k = 1; k <= 20; k++) {
                 for (int what = 0; what < 2; what++) {
                     same("trials(" + n + ", " + k + ", " + what + ")", x.trials(n, k, what), trials(n, k, what));
@@ -60,9 +60,9 @@ public final class ModelTests {
     }
 
     private static int everyJug() {
-        SauceredMilk x = new SauceredMilk();
         boolean[][] wins = winningJugs();
         for (int a = 0; a <= 99; a++) {
+            SauceredMilk x = new SauceredMilk();
             for (int b = 0; b <= 99; b++) {
                 int least = NONE;
                 for (int times = 99; times >= 1; times--) {
@@ -97,9 +97,9 @@ public final class ModelTests {
     }
 
     private static int everyRow() {
-        SauceredMilk x = new SauceredMilk();
         int checked = 0;
         for (int n = 0; n <= 40; n++) {
+            SauceredMilk x = new SauceredMilk();
             for (int j = 0; j <= n; j++) same("apart(" + n + ", " + j + ")", x.apart(n, j), rows(n, j) % 1000007);
         }
         for (int n = 0; n <= 25; n++) {
@@ -109,11 +109,12 @@ public final class ModelTests {
                 int j = Integer.bitCount(bits);
                 int i = next[j]++;
                 if (i > 99999 || n > 16 && i > 40 && i % 97 != 0) continue;
-                same("row(" + n + ", " + j + ", " + i + ")", x.row(n, j, i), bits);
+                same("row(" + n + ", " + j + ", " + i + ")", new SauceredMilk().row(n, j, i), bits);
                 checked++;
             }
             for (int j = 0; j <= n; j++) {
-                if (next[j] <= 99999) same("row(" + n + ", " + j + ", past the last)", x.row(n, j, next[j]), NONE);
+                if (next[j] > 99999) continue;
+                same("row(" + n + ", " + j + ", past the last)", new SauceredMilk().row(n, j, next[j]), NONE);
             }
         }
         return checked;
@@ -132,10 +133,10 @@ public final class ModelTests {
     }
 
     private static int everyOdds() {
-        SauceredMilk x = new SauceredMilk();
         int checked = 0;
         for (int t = 1; t <= 9; t++) {
             for (int u = 1; u <= 9; u++) {
+                SauceredMilk x = new SauceredMilk();
                 for (int n = 0; n <= 15; n++) {
                     for (int k = 0; k <= n; k++) {
                         for (int part = 0; part < 2; part++) {
@@ -512,9 +513,11 @@ public final class ModelTests {
             }
         }
 
+        /** In some runs texts go beyond a full PAD, in some there are so many hours that there can be no more. */
         String terms() {
+            if (seed % 5 == 0 && random.nextInt(3) == 0) return ".".repeat(random.nextInt(61));
             StringBuilder text = new StringBuilder();
-            int many = random.nextInt(18);
+            int many = random.nextInt(seed % 5 == 1 ? 60 : 18);
             Model as = model.copy();
             while (many-- > 0) {
                 String act = drawnAct();

@@ -1,12 +1,6 @@
 /** Each promise by answers reckoned by hand from the document: ordinary inputs, its edges, wrong inputs. */
-public final class PromiseTests {
-    private static final int NONE = -6, UNKNOWN = -1, OUTSIDE = -2, STATE = -3, FULL = -4, NO = -5;
-    private static final long REFUSED = -1000000000000000002L;
+public final class PromiseTests extends Checks {
     private static final int[] FAR_OUT = {-1, Integer.MIN_VALUE, Integer.MAX_VALUE};
-
-    private static int promise = 0;
-    private static int checked = 0;
-    private static int wrong = 0;
 
     public static void main(String[] args) {
         promise1(); promise2(); promise3(); promise4(); promise5(); promise6(); promise7();
@@ -15,45 +9,11 @@ public final class PromiseTests {
         promise19(); promise20(); promise21(); promise22(); promise23(); promise24(); promise25();
         promise26(); promise27(); promise28();
         constants();
-        System.out.println(checked + " answers checked, " + wrong + " wrong");
-        if (wrong != 0) System.exit(1);
-    }
-
-    private static void due(String call, long got, long want) {
-        checked++;
-        if (got == want) return;
-        wrong++;
-        System.out.println("promise " + promise + ": " + call + " answered " + got + ", due is " + want);
-    }
-
-    private static void begin(int number) {
-        promise = number;
-    }
-
-    private static void write(SauceredMilk x, String terms) {
-        x.wipe();
-        for (int i = 0; i < terms.length(); i++) due("say " + terms + " " + i, x.say(terms.charAt(i)), i + 1);
-    }
-
-    private static void thenIs(SauceredMilk x, int... want) {
-        for (int what = 0; what < want.length; what++) due("then(" + what + ")", x.then(what), want[what]);
-    }
-
-    private static void toldIs(SauceredMilk x, int from, int... want) {
-        for (int i = 0; i < want.length; i++) due("told(" + (from + i) + ")", x.told(from + i), want[i]);
-    }
-
-    /** A lies with 50 at 2, B does not with 40 at 3, C lies and is OFF at 9. */
-    private static SauceredMilk threeWitnesses() {
-        SauceredMilk x = new SauceredMilk();
-        x.witness(0, 2, true, 50);
-        x.witness(1, 3, false, 40);
-        x.witness(2, 9, true, 0);
-        return x;
+        end();
     }
 
     private static void constants() {
-        begin(0);
+        asks(0, "");
         due("NONE", SauceredMilk.NONE, NONE);
         due("UNKNOWN", SauceredMilk.UNKNOWN, UNKNOWN);
         due("OUTSIDE", SauceredMilk.OUTSIDE, OUTSIDE);
@@ -64,7 +24,7 @@ public final class PromiseTests {
     }
 
     private static void promise1() {
-        begin(1);
+        asks(1, "");
         SauceredMilk x = new SauceredMilk();
         toldIs(x, 0, 0, 0, 0, 0, 3, 5, 0, 0, 0, OUTSIDE);
         toldIs(x, 10, 0, 0, 0, 0, 0, 0, 0, 0, 0, 0, 0, 0, OUTSIDE);
@@ -76,7 +36,7 @@ public final class PromiseTests {
     }
 
     private static void promise2() {
-        begin(2);
+        asks(2, "");
         SauceredMilk x = new SauceredMilk();
         due("first", x.witness(3, 15, true, 99), 1);
         due("second", x.witness(7, 0, false, 0), 2);
@@ -104,7 +64,7 @@ public final class PromiseTests {
     }
 
     private static void promise3() {
-        begin(3);
+        asks(3, "");
         SauceredMilk x = new SauceredMilk();
         due("as at first", x.he(15, 9, 8), 35);
         toldIs(x, 3, 15, 9, 8);
@@ -123,7 +83,7 @@ public final class PromiseTests {
     }
 
     private static void promise4() {
-        begin(4);
+        asks(4, "");
         SauceredMilk x = new SauceredMilk();
         due("one", x.way(0, 11, true), 1);
         due("the same, from the other end", x.way(11, 0, true), 1);
@@ -152,7 +112,7 @@ public final class PromiseTests {
     }
 
     private static void promise5() {
-        begin(5);
+        asks(5, "");
         SauceredMilk x = new SauceredMilk();
         due("at first", x.milk(4095), 0);
         due("all", x.milk(5), 4095);
@@ -164,7 +124,7 @@ public final class PromiseTests {
     }
 
     private static void promise6() {
-        begin(6);
+        asks(6, "");
         SauceredMilk x = new SauceredMilk();
         due("32", x.say(32), OUTSIDE);
         due("127", x.say(127), OUTSIDE);
@@ -183,7 +143,7 @@ public final class PromiseTests {
     }
 
     private static void promise7() {
-        begin(7);
+        asks(7, "");
         SauceredMilk x = new SauceredMilk();
         due("empty", x.wipe(), 0);
         write(x, "..x");
@@ -203,7 +163,7 @@ public final class PromiseTests {
     }
 
     private static void promise8() {
-        begin(8);
+        asks(8, "");
         String[] fine = {"", ".", "...", ">1", ">9", "<1", "<9", "A?", "A=", "A~", "A!", "H?", "H!", ">5A?.<5H=."};
         for (String terms : fine) faultIs(terms, NONE);
         String[] wants = {">", "<", "A", "H"};
@@ -221,14 +181,8 @@ public final class PromiseTests {
         faultIs("A?Axx", 3);
     }
 
-    private static void judged(SauceredMilk x, String terms, int act, int why) {
-        write(x, terms);
-        due("judge(0) of " + terms, x.judge(0), act);
-        due("judge(1) of " + terms, x.judge(1), why);
-    }
-
     private static void promise9() {
-        begin(9);
+        asks(9, "");
         SauceredMilk x = threeWitnesses();
         judged(x, "", NONE, NONE);
         judged(x, ".", NONE, NONE);
@@ -285,14 +239,8 @@ public final class PromiseTests {
         judged(x, ">1<1", NONE, NONE);
     }
 
-    private static void hours(SauceredMilk x, int many) {
-        x.wipe();
-        for (int i = 0; i < many; i++) x.say('.');
-        due("hours", x.done(), many);
-    }
-
     private static void promise10() {
-        begin(10);
+        asks(10, "");
         SauceredMilk x = threeWitnesses();
         due("an empty PAD", x.done(), 0);
         write(x, ".>2A~.A!B=C=");
@@ -341,7 +289,7 @@ public final class PromiseTests {
     }
 
     private static void promise11() {
-        begin(11);
+        asks(11, "");
         SauceredMilk x = threeWitnesses();
         due("an empty PAD", x.behind(0, 0), 50);
         due("an empty PAD", x.behind(0, 1), 1);
@@ -376,7 +324,7 @@ public final class PromiseTests {
     }
 
     private static void promise12() {
-        begin(12);
+        asks(12, "");
         SauceredMilk x = threeWitnesses();
         thenIs(x, 4, 1, 0, 0, 0, NONE, NONE);
         write(x, ">2A?A?A?");
@@ -425,7 +373,7 @@ public final class PromiseTests {
     }
 
     private static void promise13() {
-        begin(13);
+        asks(13, "");
         lastsFor(0, 3, 5, 2, true, 50, 5);
         lastsFor(0, 3, 5, 3, false, 40, 14);
         lastsFor(0, 3, 5, 4, true, 40, NONE);
@@ -452,14 +400,8 @@ public final class PromiseTests {
         for (int far : FAR_OUT) due("far", x.lasts(far), UNKNOWN);
     }
 
-    private static void trialsAre(int n, int k, int fewest, int first) {
-        SauceredMilk x = new SauceredMilk();
-        due("trials(" + n + ", " + k + ", 0)", x.trials(n, k, 0), fewest);
-        due("trials(" + n + ", " + k + ", 1)", x.trials(n, k, 1), first);
-    }
-
     private static void promise14() {
-        begin(14);
+        asks(14, "");
         trialsAre(1, 1, 0, NONE);
         trialsAre(1, 20, 0, NONE);
         trialsAre(2, 20, 1, 1);
@@ -495,13 +437,8 @@ public final class PromiseTests {
         return x;
     }
 
-    private static void roundIs(SauceredMilk x, int from, int to, int steps, int first) {
-        due("round(" + from + ", " + to + ", 0)", x.round(from, to, 0), steps);
-        due("round(" + from + ", " + to + ", 1)", x.round(from, to, 1), first);
-    }
-
     private static void promise15() {
-        begin(15);
+        asks(15, "");
         SauceredMilk x = ring();
         roundIs(x, 0, 0, 0, NONE);
         roundIs(x, 0, 1, 1, 1);
@@ -542,13 +479,8 @@ public final class PromiseTests {
         roundIs(x, 11, 0, 11, 10);
     }
 
-    private static void shunIs(SauceredMilk x, int from, int to, int many, int which) {
-        due("shun(" + from + ", " + to + ", 0)", x.shun(from, to, 0), many);
-        due("shun(" + from + ", " + to + ", 1)", x.shun(from, to, 1), which);
-    }
-
     private static void promise16() {
-        begin(16);
+        asks(16, "");
         SauceredMilk x = ring();
         shunIs(x, 0, 3, 0, 0);
         x.way(1, 10, true);
@@ -586,7 +518,7 @@ public final class PromiseTests {
     }
 
     private static void promise17() {
-        begin(17);
+        asks(17, "");
         SauceredMilk x = new SauceredMilk();
         int[] ofFive = {1, 5, 6, 1, 0, 0};
         for (int j = 0; j <= 5; j++) due("apart(5, " + j + ")", x.apart(5, j), ofFive[j]);
@@ -608,7 +540,7 @@ public final class PromiseTests {
     }
 
     private static void promise18() {
-        begin(18);
+        asks(18, "");
         SauceredMilk x = new SauceredMilk();
         int[] twoOfFive = {0b00101, 0b01001, 0b01010, 0b10001, 0b10010, 0b10100, NONE};
         for (int i = 0; i < twoOfFive.length; i++) due("row(5, 2, " + i + ")", x.row(5, 2, i), twoOfFive[i]);
@@ -636,7 +568,7 @@ public final class PromiseTests {
     }
 
     private static void promise19() {
-        begin(19);
+        asks(19, "");
         SauceredMilk x = new SauceredMilk();
         due("d 4", x.seen(4, false, 0), OUTSIDE);
         due("v 100", x.seen(0, false, 100), OUTSIDE);
@@ -652,7 +584,7 @@ public final class PromiseTests {
     }
 
     private static void promise20() {
-        begin(20);
+        asks(20, "");
         SauceredMilk x = new SauceredMilk();
         due("none", x.forget(), 0);
         x.seen(0, false, 1);
@@ -666,7 +598,7 @@ public final class PromiseTests {
     }
 
     private static void promise21() {
-        begin(21);
+        asks(21, "");
         SauceredMilk x = new SauceredMilk();
         for (int i = 0; i < 100; i++) due("so(" + i + ")", x.so(i), i);
         due("so(100)", x.so(100), NONE);
@@ -697,7 +629,7 @@ public final class PromiseTests {
     }
 
     private static void promise22() {
-        begin(22);
+        asks(22, "");
         SauceredMilk x = new SauceredMilk();
         due("4 p and e", x.ask(0), 1);
         due("three at the most", x.ask(1), 3);
@@ -720,14 +652,8 @@ public final class PromiseTests {
         due("OUTSIDE ahead of NONE", x.ask(2), OUTSIDE);
     }
 
-    private static void jugsAre(int a, int b, int times) {
-        SauceredMilk x = new SauceredMilk();
-        due("jugs(" + a + ", " + b + ", 0)", x.jugs(a, b, 0), times == NONE ? 0 : 1);
-        due("jugs(" + a + ", " + b + ", 1)", x.jugs(a, b, 1), times);
-    }
-
     private static void promise23() {
-        begin(23);
+        asks(23, "");
         jugsAre(0, 0, NONE);
         jugsAre(0, 99, NONE);
         jugsAre(99, 0, NONE);
@@ -754,15 +680,8 @@ public final class PromiseTests {
         }
     }
 
-    private static void oddsAre(int t, int u, int n, int k, long upper, long lower) {
-        SauceredMilk x = new SauceredMilk();
-        String call = "odds(" + t + ", " + u + ", " + n + ", " + k + ")";
-        due(call + " upper", x.odds(t, u, n, k, 0), upper);
-        due(call + " lower", x.odds(t, u, n, k, 1), lower);
-    }
-
     private static void promise24() {
-        begin(24);
+        asks(24, "");
         oddsAre(5, 5, 15, 7, 1, 2);
         oddsAre(2, 7, 0, 0, 1, 5);
         oddsAre(1, 9, 1, 1, 1, 2);
@@ -789,7 +708,7 @@ public final class PromiseTests {
     }
 
     private static void promise25() {
-        begin(25);
+        asks(25, "");
         SauceredMilk x = threeWitnesses();
         // 0 becomes 74: 74 is 2 more than 72, so HE bends over WITNESS 9 less 8, that is B, who is 3 PLACES off
         due("OFF", x.year(0, 1, 0), 1);
@@ -828,7 +747,7 @@ public final class PromiseTests {
     }
 
     private static void promise26() {
-        begin(26);
+        asks(26, "");
         SauceredMilk x = new SauceredMilk();
         due("image 0", x.image(0), 1);
         due("image 1", x.image(1), 1);
@@ -843,7 +762,7 @@ public final class PromiseTests {
     }
 
     private static void promise27() {
-        begin(27);
+        asks(27, "");
         SauceredMilk x = threeWitnesses();
         due("never kept", x.restore(0), STATE);
         due("image 2", x.restore(2), OUTSIDE);
@@ -891,7 +810,7 @@ public final class PromiseTests {
     }
 
     private static void promise28() {
-        begin(28);
+        asks(28, "");
         SauceredMilk x = threeWitnesses();
         x.witness(7, 15, true, 99);
         x.he(6, 4, 2);
