@@ -28,6 +28,8 @@ public final class SauceredMilk {
     private static final char LET_GO = '!';
     private static final char HOUR = '.';
 
+    // not a reason that is ever told: signs with a FAULT are no ACTS
+    private static final int FAULTY = -1;
     private static final int CAN_BE = 0;
     private static final int NO_WITNESS = 1;
     private static final int NO_PLACE = 2;
@@ -121,14 +123,15 @@ public final class SauceredMilk {
 
     public int judge(int what) {
         if (!within(what, 0, 1)) return OUTSIDE;
-        if (pad.firstFault() != NONE) return NO;
         hearing.hear(world.court, pad);
+        if (hearing.reason == FAULTY) return NO;
         if (hearing.reason == CAN_BE) return NONE;
         return what == 0 ? hearing.acts : hearing.reason;
     }
 
     public int done() {
-        if (!termsCanBe()) return NO;
+        hearing.hear(world.court, pad);
+        if (hearing.reason != CAN_BE) return NO;
         world.court.become(hearing.court);
         pad.count = 0;
         return hearing.acts;
@@ -137,14 +140,16 @@ public final class SauceredMilk {
     public int behind(int witness, int what) {
         if (!world.court.has(witness)) return UNKNOWN;
         if (!within(what, 0, 1)) return OUTSIDE;
-        if (!termsCanBe()) return NO;
+        hearing.hear(world.court, pad);
+        if (hearing.reason != CAN_BE) return NO;
         if (!hearing.court.has(witness)) return NONE;
         return what == 0 ? hearing.court.creamOf(witness) : asNumber(hearing.court.isLiar(witness));
     }
 
     public int then(int what) {
         if (!within(what, 0, 6)) return OUTSIDE;
-        if (!termsCanBe()) return NO;
+        hearing.hear(world.court, pad);
+        if (hearing.reason != CAN_BE) return NO;
         Court court = hearing.court;
         int off = court.offOnes();
         switch (what) {
@@ -165,13 +170,6 @@ public final class SauceredMilk {
         if (cream == 0) return 0;
         int loss = court.lossInAnHour(witness);
         return loss > 0 ? (cream + loss - 1) / loss : NONE;
-    }
-
-    /** Leaves what is so behind the TERMS in the hearing, if they can be. */
-    private boolean termsCanBe() {
-        if (pad.firstFault() != NONE) return false;
-        hearing.hear(world.court, pad);
-        return hearing.reason == CAN_BE;
     }
 
     // ---- 3 trials, ways round, rows of saucers
@@ -385,15 +383,15 @@ public final class SauceredMilk {
     }
 
     private static boolean isWitness(int number) {
-        return within(number, 0, WITNESSES - 1);
+        return number >= 0 && number < WITNESSES;
     }
 
     private static boolean isPlace(int number) {
-        return within(number, 0, PLACES - 1);
+        return number >= 0 && number < PLACES;
     }
 
     private static boolean isCell(int number) {
-        return within(number, 0, CELLS - 1);
+        return number >= 0 && number < CELLS;
     }
 
     private static int asNumber(boolean is) {
@@ -468,7 +466,7 @@ public final class SauceredMilk {
         }
 
         boolean isLiar(int witness) {
-            return has(witness) && (lying >> witness & 1) == 1;
+            return isWitness(witness) && (lying >> witness & 1) == 1;
         }
 
         int liars() {
@@ -526,17 +524,10 @@ public final class SauceredMilk {
                 case FORTH: his += number; break;
                 case BACK: his -= number; break;
                 case HOUR: passHour(); break;
-                default: actOn(kind, number); break;
-            }
-        }
-
-        private void actOn(char kind, int witness) {
-            if (!isWitness(witness)) return;
-            switch (kind) {
-                case BEND: spoil(witness, 2 * power + (isLiar(witness) ? 3 * spite : 0)); break;
-                case FRESH: creams[witness] = FRESH_CREAM; break;
-                case RETHINK: lying ^= 1 << witness; break;
-                case LET_GO: present &= ~(1 << witness); break;
+                case BEND: spoil(number, 2 * power + (isLiar(number) ? 3 * spite : 0)); break;
+                case FRESH: refill(number); break;
+                case RETHINK: lying ^= 1 << number; break;
+                case LET_GO: present &= ~(1 << number); break;
                 default: break;
             }
         }
@@ -550,8 +541,12 @@ public final class SauceredMilk {
             if (isWitness(witness)) creams[witness] = Math.max(0, creams[witness] - loss);
         }
 
+        private void refill(int witness) {
+            if (isWitness(witness)) creams[witness] = FRESH_CREAM;
+        }
+
         private int placesOff(int witness) {
-            return Math.abs(placeOf(witness) - his);
+            return isWitness(witness) ? Math.abs(places[witness] - his) : PLACES;
         }
     }
 
@@ -625,12 +620,12 @@ public final class SauceredMilk {
             court = new Court();
         }
 
-        /** Ends behind the TERMS, or ahead of the first ACT that can not be. */
+        /** Ends behind the TERMS, or ahead of the first ACT that can not be; with a FAULT it is not begun. */
         void hear(Court now, Pad pad) {
             begin(now);
-            for (int at = 0; at < pad.count; at += pad.isHour(at) ? 1 : 2) {
+            if (pad.firstFault() != NONE) reason = FAULTY;
+            for (int at = 0; reason == CAN_BE && at < pad.count; at += pad.isHour(at) ? 1 : 2) {
                 take(pad.kindAt(at), pad.numberAt(at));
-                if (reason != CAN_BE) return;
             }
         }
 

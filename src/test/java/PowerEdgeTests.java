@@ -518,6 +518,8 @@ public final class PowerEdgeTests extends Checks {
         x.image(1);
         x.restore(0);
         due("the other one stays", x.told(7), 2);
+        x.restore(1);
+        due("it is not taken back with what is restored", x.told(7), 5);
     }
 
     private static void allButThePad() {
